@@ -106,9 +106,17 @@ public final class NoTwoTogether {
     }
 
     public int text(int k) {
+        int lines = NONE;
         fault = 0;
         faultPlace = NONE;
-        int lines = k < 0 || k > 3 ? NONE : told(k);
+        if (k >= 0 && k <= 3) {
+            lines = k == 3 ? parser.readBreaks() : parser.readLines(k == 0);
+            fault = parser.fault;
+            faultPlace = parser.faultPlace;
+        }
+        if (lines != NONE) {
+            keepRead(k);
+        }
         tape.length = 0;
         return lines;
     }
@@ -130,7 +138,7 @@ public final class NoTwoTogether {
             case 2: return bit(now.gone, p);
             case 3: return now.seen[p];
             case 4: return bit(now.seenGone, p);
-            case 5: return asker.goes(now, texts.law, p);
+            case 5: return asker.goes(now, texts.law, p, besideIn(now.gone, p), 0);
             case 6: return asker.guess(now, texts.law, p);
             case 7: return asker.urge(now, texts.first, p);
             case 8: return asker.urge(now, texts.second, p);
@@ -286,19 +294,12 @@ public final class NoTwoTogether {
         }
     }
 
-    private int told(int k) {
-        int lines = k == 3 ? parser.readBreaks() : parser.readLines(k == 0);
-        fault = parser.fault;
-        faultPlace = parser.faultPlace;
-        if (lines == NONE) {
-            return NONE;
-        }
+    private void keepRead(int k) {
         if (k == 3) {
             texts.breaks.copy(parser.breaks);
         } else {
             texts.lines(k).copy(parser.lines);
         }
-        return lines;
     }
 
     private void goAhead(int days) {
@@ -595,8 +596,7 @@ public final class NoTwoTogether {
             for (int i = 0; i < Tape.MOST && good && (tape.kind() == '+' || tape.kind() == '-'); i++) {
                 int sign = tape.kind();
                 tape.next();
-                good = readProduct();
-                lines.put(-sign);
+                good = readProduct() && lines.put(-sign);
             }
             return good;
         }
@@ -606,8 +606,7 @@ public final class NoTwoTogether {
             for (int i = 0; i < Tape.MOST && good && (tape.kind() == '*' || tape.kind() == '/'); i++) {
                 int sign = tape.kind();
                 tape.next();
-                good = (sign == '*' || isDivisor()) && readUnit();
-                lines.put(-sign);
+                good = (sign == '*' || isDivisor()) && readUnit() && lines.put(-sign);
             }
             return good;
         }
@@ -642,8 +641,7 @@ public final class NoTwoTogether {
             boolean good = readAnd(open);
             for (int i = 0; i < Tape.MOST && good && tape.kind() == Tape.OR; i++) {
                 tape.next();
-                good = readAnd(open);
-                lines.put(-Tape.OR);
+                good = readAnd(open) && lines.put(-Tape.OR);
             }
             return good;
         }
@@ -652,30 +650,21 @@ public final class NoTwoTogether {
             boolean good = readClause(open);
             for (int i = 0; i < Tape.MOST && good && tape.kind() == Tape.AND; i++) {
                 tape.next();
-                good = readClause(open);
-                lines.put(-Tape.AND);
+                good = readClause(open) && lines.put(-Tape.AND);
             }
             return good;
         }
 
         private boolean readClause(int open) {
             int kind = tape.kind();
-            if (kind != Tape.NOT && kind != '(') {
-                return readComparison();
-            }
-            if (open >= MOST_OPEN) {
+            boolean opens = kind == Tape.NOT || kind == '(';
+            if (opens && open >= MOST_OPEN) {
                 return stop(FAULT_MANY);
             }
-            tape.next();
-            if (kind == '(') {
-                return readOr(open + 1) && pass(')');
+            if (opens) {
+                tape.next();
+                return kind == '(' ? readOr(open + 1) && pass(')') : readClause(open + 1) && lines.put(-Tape.NOT);
             }
-            boolean good = readClause(open + 1);
-            lines.put(-Tape.NOT);
-            return good;
-        }
-
-        private boolean readComparison() {
             if (!readSum()) {
                 return false;
             }
@@ -684,9 +673,7 @@ public final class NoTwoTogether {
                 return stop(FAULT_PLACE);
             }
             tape.next();
-            boolean good = readSum();
-            lines.put(-sign);
-            return good;
+            return readSum() && lines.put(-sign);
         }
 
         private boolean readBreak(int line) {
@@ -778,11 +765,14 @@ public final class NoTwoTogether {
             used = 0;
         }
 
-        void put(int part) {
-            if (used < code.length) {
-                code[used] = part;
-                used++;
+        /** There is room for a part of each byte of the tape. */
+        boolean put(int part) {
+            if (used >= code.length) {
+                return false;
             }
+            code[used] = part;
+            used++;
+            return true;
         }
 
         void beginWhen(int line) {
@@ -962,11 +952,7 @@ public final class NoTwoTogether {
         private final int[] names = new int[Tape.SINCE - Tape.WEAK + 1];
         private final int[] stack = new int[DEEPEST];
 
-        int goes(Row row, Lines law, int p) {
-            return goesThen(row, law, p, besideIn(row.gone, p), 0);
-        }
-
-        int goesThen(Row row, Lines law, int p, int beside, int daysMore) {
+        int goes(Row row, Lines law, int p, int beside, int daysMore) {
             name(row, p, beside, daysMore);
             return Math.max(0, Math.min(1000, firstOf(law)));
         }
@@ -983,7 +969,7 @@ public final class NoTwoTogether {
             if (bit(row.seenGone, p) == 1) {
                 return 1000;
             }
-            int stays = 1000 - goesThen(row, law, p, 0, 0);
+            int stays = 1000 - goes(row, law, p, 0, 0);
             int rest = 1000;
             for (int day = row.seen[p]; day < row.day; day++) {
                 rest = rest * stays / 1000;
@@ -1023,41 +1009,36 @@ public final class NoTwoTogether {
             stack[0] = 0;
             for (int i = from; i < stop && i < lines.code.length; i++) {
                 int part = lines.code[i];
-                if (part >= 0 || part <= -Tape.WEAK) {
+                int name = -part - Tape.WEAK;
+                if (part >= 0 || name >= 0 && name < names.length) {
                     if (top < DEEPEST) {
-                        stack[top] = part >= 0 ? part : nameOf(-part);
+                        stack[top] = part >= 0 ? part : names[name];
                         top++;
                     }
-                } else if (part == -Tape.NOT) {
-                    if (top >= 1) {
-                        stack[top - 1] = 1 - stack[top - 1];
-                    }
-                } else if (top >= 2) {
-                    top--;
-                    stack[top - 1] = done(-part, stack[top - 1], stack[top]);
+                    continue;
+                }
+                if (part == -Tape.NOT && top >= 1) {
+                    stack[top - 1] = 1 - stack[top - 1];
+                }
+                if (part == -Tape.NOT || top < 2) {
+                    continue;
+                }
+                top--;
+                int a = stack[top - 1];
+                int b = stack[top];
+                switch (-part) {
+                    case '+': stack[top - 1] = a + b; break;
+                    case '-': stack[top - 1] = a - b; break;
+                    case '*': stack[top - 1] = a * b; break;
+                    case '/': stack[top - 1] = b == 0 ? 0 : a / b; break;
+                    case '<': stack[top - 1] = a < b ? 1 : 0; break;
+                    case '=': stack[top - 1] = a == b ? 1 : 0; break;
+                    case '>': stack[top - 1] = a > b ? 1 : 0; break;
+                    case Tape.AND: stack[top - 1] = a & b; break;
+                    default: stack[top - 1] = a | b; break;
                 }
             }
             return stack[0];
-        }
-
-        private int nameOf(int kind) {
-            int at = kind - Tape.WEAK;
-            return at >= 0 && at < names.length ? names[at] : 0;
-        }
-
-        private static int done(int sign, int a, int b) {
-            switch (sign) {
-                case '+': return a + b;
-                case '-': return a - b;
-                case '*': return a * b;
-                case '/': return b == 0 ? 0 : a / b;
-                case '<': return a < b ? 1 : 0;
-                case '=': return a == b ? 1 : 0;
-                case '>': return a > b ? 1 : 0;
-                case Tape.AND: return a & b;
-                case Tape.OR: return a | b;
-                default: return 0;
-            }
         }
     }
 
@@ -1078,7 +1059,7 @@ public final class NoTwoTogether {
 
         long ofNow(Row row, Texts texts) {
             for (int p = 0; p < row.size; p++) {
-                chances[p] = bit(row.gone, p) == 1 ? 1000 : asker.goes(row, texts.law, p);
+                chances[p] = bit(row.gone, p) == 1 ? 1000 : asker.goes(row, texts.law, p, besideIn(row.gone, p), 0);
             }
             return out(row.size, texts.breaks);
         }
@@ -1198,7 +1179,7 @@ public final class NoTwoTogether {
         void passDay(Row row, Lines law, int daysMore) {
             for (int p = 0; p < size; p++) {
                 for (int beside = 0; beside < 3; beside++) {
-                    goes[3 * p + beside] = asker.goesThen(row, law, p, beside, daysMore);
+                    goes[3 * p + beside] = asker.goes(row, law, p, beside, daysMore);
                 }
             }
             Arrays.fill(next, 0L);
@@ -1275,7 +1256,14 @@ public final class NoTwoTogether {
         }
 
         void passDay(Row row, Texts texts, Lines rule) {
-            wear(row, texts.law);
+            for (int p = 0; p < row.size; p++) {
+                goes[p] = asker.goes(row, texts.law, p, besideIn(row.gone, p), 0);
+            }
+            for (int p = 0; p < row.size; p++) {
+                if (bit(row.gone, p) == 0) {
+                    wear(row, p);
+                }
+            }
             row.day++;
             if (texts.breaks.breaksRow(row.gone, row.size)) {
                 row.failures++;
@@ -1286,22 +1274,11 @@ public final class NoTwoTogether {
             }
         }
 
-        private void wear(Row row, Lines law) {
-            for (int p = 0; p < row.size; p++) {
-                goes[p] = asker.goes(row, law, p);
+        private void wear(Row row, int p) {
+            if (row.draw(1000) < goes[p]) {
+                row.gone |= 1L << p;
+                return;
             }
-            for (int p = 0; p < row.size; p++) {
-                if (bit(row.gone, p) == 0) {
-                    if (row.draw(1000) < goes[p]) {
-                        row.gone |= 1L << p;
-                    } else {
-                        growOlder(row, p);
-                    }
-                }
-            }
-        }
-
-        private static void growOlder(Row row, int p) {
             row.age[p]++;
             if (row.age[p] > row.stay) {
                 row.stay = row.age[p];
