@@ -831,16 +831,16 @@ public final class NoTwoTogether {
             }
         }
 
-        /** Whether a line is met by PLACES that end with the p-th, the last eight of which are told. */
-        boolean isMet(int lastEight, int p) {
-            return enough[lastEight & LAST_EIGHT] <= Math.min(p + 1, WIDEST);
+        /** Whether a line is met by the last PLACES so far, of which there are so many (eight or fewer). */
+        boolean isMet(int lastEight, int many) {
+            return enough[lastEight & LAST_EIGHT] <= many;
         }
 
         boolean breaksRow(long gone, int size) {
             int last = 0;
             for (int p = 0; p < size; p++) {
                 last = (last << 1 | bit(gone, p)) & LAST_EIGHT;
-                if (isMet(last, p)) {
+                if (isMet(last, Math.min(p + 1, WIDEST))) {
                     return true;
                 }
             }
@@ -1073,7 +1073,6 @@ public final class NoTwoTogether {
 
         private long out(int size, Breaks breaks) {
             long out = 0L;
-            Arrays.fill(weights, 0L);
             weights[0] = ALL;
             for (int p = 0; p < size; p++) {
                 out += pass(p, breaks);
@@ -1084,22 +1083,29 @@ public final class NoTwoTogether {
             return out;
         }
 
+        /** How many sets of last PLACES there can be ahead of the p-th. */
+        private static int setsAhead(int p) {
+            return 1 << Math.min(p, 7);
+        }
+
         private long pass(int p, Breaks breaks) {
             long out = 0L;
+            int many = Math.min(p + 1, Breaks.WIDEST);
+            int sets = setsAhead(p);
             Arrays.fill(next, 0L);
-            for (int last = 0; last <= LAST_SEVEN; last++) {
+            for (int last = 0; last < sets; last++) {
                 long weight = weights[last];
                 if (weight == 0L) {
                     continue;
                 }
                 long gone = weight * chances[p] / 1000L;
                 int then = last << 1;
-                if (breaks.isMet(then | 1, p)) {
+                if (breaks.isMet(then | 1, many)) {
                     out += gone;
                 } else {
                     next[(then | 1) & LAST_SEVEN] += gone;
                 }
-                if (breaks.isMet(then, p)) {
+                if (breaks.isMet(then, many)) {
                     out += weight - gone;
                 } else {
                     next[then & LAST_SEVEN] += weight - gone;
@@ -1109,11 +1115,11 @@ public final class NoTwoTogether {
         }
 
         long holding(int size, int many, Breaks breaks) {
-            Arrays.fill(rows, 0L);
             rows[0] = 1L;
             for (int p = 0; p < size; p++) {
-                Arrays.fill(nextRows, 0L);
-                for (int gone = 0; gone <= Math.min(p, many); gone++) {
+                int most = Math.min(p, many);
+                clearRows(most + 1);
+                for (int gone = 0; gone <= most; gone++) {
                     addRows(p, gone, breaks);
                 }
                 long[] spent = rows;
@@ -1127,17 +1133,25 @@ public final class NoTwoTogether {
             return sum;
         }
 
+        private void clearRows(int most) {
+            for (int i = 0; i <= (most << 7 | LAST_SEVEN) && i < nextRows.length; i++) {
+                nextRows[i] = 0L;
+            }
+        }
+
         private void addRows(int p, int gone, Breaks breaks) {
-            for (int last = 0; last <= LAST_SEVEN; last++) {
+            int many = Math.min(p + 1, Breaks.WIDEST);
+            int sets = setsAhead(p);
+            for (int last = 0; last < sets; last++) {
                 long ways = rows[gone << 7 | last];
                 if (ways == 0L) {
                     continue;
                 }
                 int then = last << 1;
-                if (!breaks.isMet(then, p)) {
+                if (!breaks.isMet(then, many)) {
                     nextRows[gone << 7 | then & LAST_SEVEN] += ways;
                 }
-                if (!breaks.isMet(then | 1, p) && gone < Row.MOST) {
+                if (!breaks.isMet(then | 1, many) && gone < Row.MOST) {
                     nextRows[gone + 1 << 7 | (then | 1) & LAST_SEVEN] += ways;
                 }
             }

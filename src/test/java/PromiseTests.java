@@ -268,6 +268,13 @@ public final class PromiseTests {
         due("the highest byte first", x.feed(0x676F2037, 0x3B676F20, 0x383B676F, 0x20393B20, 0x0A202020), 20);
         due("three lines", x.text(0), 3);
         due("the first of them", x.of(0, 5), 7);
+        write(x, many(";", 500));
+        due("500 tokens", x.text(0), -1);
+        due("fault(1)", x.fault(1), 0);
+        due("500 tokens, the last missing", tell(x, 0, "go1when" + many("1+", 245) + "1=1"), -1);
+        due("fault(1)", x.fault(1), 500);
+        due("498 tokens of a line", tell(x, 0, "go7when" + many("1+", 244) + "1>1" + ";"), 1);
+        due("that line", x.of(0, 5), 7);
     }
 
     private static void end() {
@@ -1010,6 +1017,8 @@ public final class PromiseTests {
         int changed = x.look(4);
         due("RULE 2 changes all", x.thought(2, 1, 5, 2), 20);
         due("every second DAY: 4, 6, 8", x.thought(2, 2, 5, 2), 12);
+        due("EVERY 99: DAY 99", x.thought(2, 99, 96, 2), 4);
+        due("EVERY 99: not by DAY 98", x.thought(2, 99, 95, 2), 0);
         int[] thought = {x.thought(1, 1, 40, 0), x.thought(1, 1, 40, 1), x.thought(1, 1, 40, 2)};
         due("DAY stays", x.look(1), 3);
         due("EVERY stays", x.look(12), 1);
