@@ -292,6 +292,13 @@ public final class PromiseTests {
         due("end(6)", x.end(6), false);
         due("text(0)", x.text(0), 1);
         due("the TAPE is empty", x.end(1), false);
+        for (String text : new String[] {"side 23;", "sidex 2;"}) {
+            write(x, text);
+            int cut = text.equals("side 23;") ? 6 : 4;
+            due("end within <" + text + ">", x.end(cut), true);
+            due("text(3)", x.text(3), -1);
+            due("what lay behind is no part of it", x.fault(1), cut);
+        }
     }
 
     private static void text() {
@@ -353,6 +360,13 @@ public final class PromiseTests {
         faulty(0, "go 1;change 2;", 1, 5);
         faulty(0, "Go 1;", 1, 0);
         faulty(0, "gogo 1;", 1, 0);
+        for (String letter : new String[] {"a", "z", "A", "Z"}) {
+            faulty(0, "go" + letter + " 1;", 1, 0);
+        }
+        for (String sign : new String[] {"`", "{", "@", "[", ":"}) {
+            faulty(0, "go" + sign + " 1;", 1, 2);
+            faulty(0, "go 1" + sign + ";", 1, 4);
+        }
         faulty(0, "go 12345;", 1, 3);
         faulty(0, "go 1/0;", 2, 5);
         faulty(0, "go 1/0000;", 2, 5);
