@@ -125,12 +125,14 @@ abstract class Edge {
     static NoTwoTogether used() {
         NoTwoTogether x = bridge(3, "go weak+load;", "side 2;");
         good(x, 1, "change gone;");
-        good(x, 2, "change 2 when since>1;");
+        good(x, 2, "change 2+age;");
         x.sort(1, 40, 6);
         x.set(3, 2);
         x.place(2, 1, 7, true);
         x.days(3);
-        x.place(0, 1, 30, true);
+        x.place(0, 1, 30, false);
+        x.place(1, 2, 31, true);
+        x.see(1);
         x.state(4321);
         return x;
     }

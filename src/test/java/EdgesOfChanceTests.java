@@ -57,6 +57,19 @@ public final class EdgesOfChanceTests extends Edge {
             x.place(1, 0, 0, false);
             now(x, ALL / 16);
         });
+        edge("3: GOES as the row is now: AGE and DAY", () -> {
+            NoTwoTogether x = bridge(2, "go 1000 when age=7;", "side 1;");
+            for (int age = 6; age <= 8; age++) {
+                x.place(1, 0, age, false);
+                now(x, age == 7 ? ALL : 0);
+            }
+            good(x, 0, "");
+            x.days(3);
+            for (int day = 2; day <= 4; day++) {
+                good(x, 0, "go 1000 when day=" + day + ";");
+                now(x, day == 3 ? ALL : 0);
+            }
+        });
         edge("3: GOES as the row is now: beside one that is GONE", () -> {
             NoTwoTogether x = bridge(3, "go 100+beside*200;", "side 2;");
             x.place(1, 0, 0, true);
@@ -69,6 +82,12 @@ public final class EdgesOfChanceTests extends Edge {
             now(bridge(8, "go 1;", "side 4;"), 1L);
             now(bridge(4, "go 1;", "side 4;"), 1L);
             now(bridge(5, "go 1;", "side 5;"), 0L);
+        });
+        edge("3: a weight of one part of ALL", () -> {
+            now(bridge(5, "go 1 when place<4;", "shape gone gone gone gone there;"), 1);
+            now(bridge(5, "go 1 when place<4;go 1000;", "side 5;"), 1);
+            now(bridge(5, "go 1 when place<4;go 999;", "side 5;"), 0);
+            now(bridge(5, "go 1 when place<4;go 999;", "shape gone gone gone gone there;"), 1);
         });
         edge("3: GOES 1000 and 0: all of a weight, none of it", () -> {
             NoTwoTogether x = bridge(3, "go 1000 when place=1;go 0;", "shape there gone there;");
@@ -117,6 +136,10 @@ public final class EdgesOfChanceTests extends Edge {
         });
         edge("3: those whose seven last PLACES are alike then are added", () -> {
             now(bridge(9, "go 500 when place=0;go 1 when place<4 or place=8;", "shape gone gone gone there there there there gone;"), 1);
+        });
+        edge("3: those whose seven last PLACES are alike then are added: the last of these GONE", () -> {
+            String law = "go 500 when place=0;go 1 when place=1 or place=2 or place>6;";
+            now(bridge(9, law, "shape gone gone there there there there gone gone;"), 1);
         });
         edge("3: those whose seven last PLACES are not alike are not added", () -> {
             now(bridge(8, "go 500 when place=0;go 1 when place<4 or place=7;", "shape gone gone gone there there there gone;"), 0);
@@ -212,6 +235,21 @@ public final class EdgesOfChanceTests extends Edge {
             good(x, 0, "go 999;");
             guessed(x, 1, 1000);
         });
+        edge("3: GUESS: GOES, as it is: by AGE and DAY of today", () -> {
+            NoTwoTogether x = bridge(2, "", "");
+            x.set(3, 99);
+            x.see(1);
+            x.days(3);
+            x.place(1, 0, 7, false);
+            for (int age = 6; age <= 8; age++) {
+                good(x, 0, "go 500 when age=" + age + ";");
+                guessed(x, 1, age == 7 ? 875 : 0);
+            }
+            for (int day = 2; day <= 4; day++) {
+                good(x, 0, "go 500 when day=" + day + ";");
+                guessed(x, 1, day == 3 ? 875 : 0);
+            }
+        });
         edge("3: GUESS: GOES, as it is but with beside 0", () -> {
             NoTwoTogether x = bridge(3, "go 100+beside*300;", "");
             x.set(3, 99);
@@ -297,6 +335,40 @@ public final class EdgesOfChanceTests extends Edge {
             good(x, 3, "side 3;");
             behind(x, 2, ALL);
             behind(x, 3, 0);
+        });
+        edge("3: of each set GOES is asked (by it): beside none, one, two", () -> {
+            NoTwoTogether x = bridge(3, "go 1000 when beside=2;go 1 when beside=1;", "side 3;");
+            behind(x, 60, ALL);
+            x.place(0, 0, 0, true);
+            behind(x, 1, ALL);
+            x.place(2, 0, 0, true);
+            behind(x, 1, 0);
+            good(x, 0, "go 250 when beside=2;go 1000;");
+            behind(x, 1, ALL / 4 * 3);
+        });
+        edge("3: weights by sets of GONE: what comes to be the same set is added", () -> {
+            NoTwoTogether x = bridge(2, "go 500 when place=0;", "");
+            for (int d = 0; d <= 3; d++) {
+                behind(x, d, ALL);
+            }
+            likely(x, 1, 0);
+            likely(x, 2, 1);
+            good(x, 3, "shape there;");
+            x.place(1, 0, 0, true);
+            behind(x, 0, 0);
+        });
+        edge("3: one part of ALL is never split: the rest stays", () -> {
+            NoTwoTogether x = bridge(2, "go 999;", "side 1;");
+            behind(x, 1, 1000000);
+            behind(x, 2, 1);
+            behind(x, 60, 1);
+            likely(x, 2, 0);
+            likely(x, 60, 0);
+        });
+        edge("3: PLACE by PLACE, not GONE: a weight is not split by one that is GONE", () -> {
+            NoTwoTogether x = bridge(5, "go 500 when place=0;go 1;", "side 5;");
+            x.place(0, 0, 0, true);
+            behind(x, 1, ALL - 1);
         });
         edge("3: AGES as many DAYS more", () -> {
             NoTwoTogether x = bridge(2, "go 1000 when age=7;", "side 1;");
@@ -508,6 +580,35 @@ public final class EdgesOfChanceTests extends Edge {
             held(x, 8, 7);
             x.row(7);
             held(x, 7, 1);
+        });
+        edge("3: HOLD: what is not there beyond the left end meets no line", () -> {
+            NoTwoTogether x = bridge(2, "", "shape there gone;");
+            held(x, 0, 1);
+            held(x, 1, 1);
+            held(x, 2, 1);
+            good(x, 3, "shape there there there;");
+            held(x, 0, 1);
+            x.row(3);
+            held(x, 0, 0);
+            good(x, 3, "shape" + many(" there", 7) + " gone;");
+            x.row(7);
+            held(x, 1, 7);
+            x.row(8);
+            held(x, 1, 7);
+        });
+        edge("3: HOLD: one row behind another, longer or shorter", () -> {
+            NoTwoTogether x = bridge(3);
+            held(x, 1, 3);
+            x.row(60);
+            held(x, 60, 1);
+            held(x, 59, 60);
+            x.row(59);
+            held(x, 59, 1);
+            x.row(60);
+            held(x, 60, 1);
+            held(x, 0, 1);
+            x.row(2);
+            held(x, 1, 2);
         });
         edge("3: HOLD: whatever the row is, GONE or not", () -> {
             NoTwoTogether x = bridge(6, "go 1000;", "side 2;");

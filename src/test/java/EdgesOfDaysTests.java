@@ -395,6 +395,20 @@ public final class EdgesOfDaysTests extends Edge {
                 }
             }
         });
+        edge("3: a new slat is not GONE: at each PLACE, the last of sixty too", () -> {
+            NoTwoTogether x = ruled(60, "change 1 when place>54 or place=29 or place=30;");
+            for (int p = 0; p < 60; p++) {
+                x.place(p, 0, 9, true);
+            }
+            x.days(1);
+            due("GONE are", x.look(5), 53);
+            for (int p = 0; p < 60; p++) {
+                boolean isNew = p > 54 || p == 29 || p == 30;
+                due("GONE of " + p, x.of(p, 2), isNew ? 0 : 1);
+                due("GONE then of " + p, x.of(p, 4), isNew ? 0 : 1);
+                due("AGE of " + p, x.of(p, 1), isNew ? 0 : 9);
+            }
+        });
         edge("3: CHANGED one more: of the PLACE, of all", () -> {
             NoTwoTogether x = ruled(2, "change 1;");
             x.days(4);
@@ -480,6 +494,20 @@ public final class EdgesOfDaysTests extends Edge {
             x.days(1);
             stocks(x, 0, 98);
             due("COST", x.look(3), 1 + 10 + 1 + 40);
+            x = ruled(5, "change 1 when place>2;");
+            x.set(7, 1);
+            x.set(4, 10);
+            x.days(1);
+            stocks(x, 98, 0);
+            due("COST", x.look(3), 1 + 20 + 1 + 50);
+            x = ruled(5, "change 1 when place=4;");
+            x.set(7, 1);
+            x.days(1);
+            stocks(x, 99, 0);
+            x = ruled(5, "change 1 when place=0;");
+            x.set(6, 1);
+            x.days(1);
+            stocks(x, 0, 99);
         });
         edge("1: STOCK 999: the most", () -> {
             NoTwoTogether x = ruled(2, "change 1;");

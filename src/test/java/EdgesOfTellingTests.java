@@ -69,6 +69,25 @@ public final class EdgesOfTellingTests extends Edge {
             due("look(7)", new NoTwoTogether().look(7), 0);
             due("look(8)", new NoTwoTogether().look(8), -1);
         });
+        edge("two objects have nothing in common", () -> {
+            NoTwoTogether x = used();
+            x.image(true);
+            tell(x, 0, "go 1/0;");
+            write(x, "go 1;");
+            String before = picture(new NoTwoTogether());
+            NoTwoTogether y = new NoTwoTogether();
+            same("another object", picture(y), before);
+            due("its TAPE", y.end(1), false);
+            due("its FAULT", y.fault(0), 0);
+            due("its IMAGE", y.image(false), false);
+            due("its WHAT FAILS", y.fails(255, 0), 0);
+            String used = picture(x);
+            y.row(9);
+            tell(y, 0, "go 1000;");
+            y.days(9);
+            same("the first one", picture(x), used);
+            due("its TAPE", x.end(5), true);
+        });
         edge("the constant NONE", () -> due("NONE", NoTwoTogether.NONE, -1));
     }
 
@@ -154,6 +173,8 @@ public final class EdgesOfTellingTests extends Edge {
             due("STATE", x.state(0), 4321);
             due("THE LAW", x.of(0, 5), 10);
             due("RULE 2", x.of(0, 8), 2);
+            due("WEAK of SORT 1", x.place(0, 1, 0, false) ? x.of(0, 5) : -1, 40);
+            due("PRICE of SORT 1", costOfSlat(x, 1), 6);
             due("WHAT FAILS", x.fails(3, 0), 1);
         });
     }
@@ -660,6 +681,57 @@ public final class EdgesOfTellingTests extends Edge {
             same("image(false)", picture(x), before);
             due("side 2 FAILS", x.fails(3, 0), 1);
             due("one does not", x.fails(1, 0), 0);
+        });
+        edge("4: all that was told: WEAK and PRICE of each SORT", () -> {
+            NoTwoTogether x = bridge(2, "go weak;", "");
+            for (int k = 0; k < 6; k++) {
+                x.sort(k, 60 + k, 30 + k);
+            }
+            x.image(true);
+            for (int k = 0; k < 6; k++) {
+                x.sort(k, 1, 2);
+            }
+            x.image(false);
+            for (int k = 0; k < 6; k++) {
+                x.place(0, k, 0, false);
+                due("WEAK of " + k, x.of(0, 5), 60 + k);
+            }
+            good(x, 0, "");
+            for (int k = 0; k < 6; k++) {
+                due("PRICE of " + k, costOfSlat(x, k), 30 + k);
+            }
+        });
+        edge("4: all that is: SEEN, how it was then, how often CHANGED", () -> {
+            NoTwoTogether x = bridge(3);
+            good(x, 1, "change 1 when place=0;");
+            x.days(2);
+            x.place(2, 0, 0, true);
+            x.see(2);
+            x.days(1);
+            x.image(true);
+            x.place(2, 0, 0, false);
+            x.days(3);
+            x.image(false);
+            int[][] wanted = {{3, 0, 3}, {3, 0, 0}, {3, 1, 0}};
+            for (int p = 0; p < 3; p++) {
+                due("SEEN of " + p, x.of(p, 3), wanted[p][0]);
+                due("GONE then of " + p, x.of(p, 4), wanted[p][1]);
+                due("CHANGED of " + p, x.of(p, 9), wanted[p][2]);
+            }
+        });
+        edge("4: all that was told: each of the TEXTS", () -> {
+            NoTwoTogether x = bridge(3, "go 5;", "side 1;");
+            good(x, 1, "change 6;");
+            good(x, 2, "change 7;");
+            x.image(true);
+            for (int k = 0; k <= 3; k++) {
+                good(x, k, "");
+            }
+            x.image(false);
+            due("GOES", x.of(0, 5), 5);
+            due("URGE by RULE 1", x.of(0, 7), 6);
+            due("URGE by RULE 2", x.of(0, 8), 7);
+            due("FAILS", x.fails(4, 0), 1);
         });
         edge("4: gone back to it may be more than once", () -> {
             NoTwoTogether x = used();

@@ -51,6 +51,20 @@ public final class EdgesOfTextsTests extends Edge {
             due("URGE by RULE 2", x.of(0, 8), 0);
             due("FAILS", x.fails(255, 0), 0);
         });
+        edge("Promise 9: a TEXT of fewer lines takes the place of one of more: none of these is left", () -> {
+            NoTwoTogether x = new NoTwoTogether();
+            for (int k = 0; k <= 2; k++) {
+                String word = k == 0 ? "go " : "change ";
+                good(x, k, word + "5 when 1=2;" + word + "6 when 1=1;" + word + "7;");
+                good(x, k, word + "5 when 1=2;");
+            }
+            good(x, 3, "side 8;side 1;side 2;");
+            good(x, 3, "side 8;");
+            due("GOES", x.of(0, 5), 0);
+            due("URGE by RULE 1", x.of(0, 7), 0);
+            due("URGE by RULE 2", x.of(0, 8), 0);
+            due("FAILS", x.fails(3, 0), 0);
+        });
         edge("Promise 9: the TAPE is empty in each case: a TEXT", () -> {
             for (int k = 0; k <= 3; k++) {
                 NoTwoTogether x = new NoTwoTogether();
@@ -122,6 +136,9 @@ public final class EdgesOfTextsTests extends Edge {
         edge("Promise 9: a FAULT at the 500th byte", () -> {
             faulty(0, many(" ", 499) + ";", 1, 499);
             faulty(3, many(" ", 499) + ";", 1, 499);
+            faulty(0, many(";", 500), 1, 0);
+            faulty(0, "go 1" + many("+1", 248), 1, 500);
+            faulty(0, "go 1/" + many("0", 4) + many("/", 491), 2, 5);
             faulty(0, "go 1" + many(" ", 496), 1, 500);
         });
     }
@@ -799,6 +816,11 @@ public final class EdgesOfTextsTests extends Edge {
             truth("not 1=2 and 1=2", false);
             truth("not (1=2 and 1=2)", true);
             truth("not 1=1 or 1=1", true);
+            truth("1=1 and not 1=2", true);
+            truth("1=1 and not 1=1", false);
+            truth("1=2 or not 1=1", false);
+            truth("1=2 or not 1=2", true);
+            truth("1=2 or 1=1 and not (1=1 and not 1=1)", true);
             truth("not (1=1 or 1=1)", false);
             truth(many("not ", 5) + "1=1", false);
             truth(many("not ", 6) + "1=1", true);

@@ -66,6 +66,13 @@ public final class EdgesOfTriesTests extends Edge {
             changed(x, 1, 4);
             changed(x, 2, 6);
         });
+        edge("4: new slats: AGE 0 and no other", () -> {
+            NoTwoTogether x = bridge(2, "go 1000 when not age=0;", "side 1;");
+            x.place(0, 0, 1, false);
+            changed(x, 1, 1);
+            x.place(0, 0, 0, false);
+            changed(x, 2, 0);
+        });
         edge("4: CHANCE (NOW) of the row so changed: beside, too", () -> {
             NoTwoTogether x = bridge(5, "go beside*400+age;", "side 3;");
             x.place(2, 0, 0, true);
@@ -172,6 +179,11 @@ public final class EdgesOfTriesTests extends Edge {
         edge("4: the last of all orders", () -> order(sorted("go weak*place;", "shape gone;", 0, 1, 2), 2, 1, 0));
         edge("4: the last of the most orders that there are", () ->
             order(sorted("go weak*place/9;", "shape gone;", 0, 1, 2, 3, 4, 5, 5), 5, 5, 4, 3, 2, 1, 0));
+        edge("4: all orders, with SORTS that are alike", () -> {
+            order(sorted("go weak*place/9;", "shape gone;", 0, 0, 1), 1, 0, 0);
+            order(sorted("go weak*place/9;", "shape gone;", 1, 0, 1, 0), 1, 1, 0, 0);
+            order(sorted("go weak*place/9;", "shape gone;", 0, 1, 5, 0, 5, 1, 5), 5, 5, 5, 1, 1, 0, 0);
+        });
         edge("4: of the SORTS that there are: one alone", () -> order(sorted("go weak;", "side 1;", 4, 4, 4), 4, 4, 4));
         edge("4: AGES 0, none GONE", () -> {
             NoTwoTogether x = sorted("go weak+age;", "side 2;", 5, 0, 1);
@@ -179,6 +191,10 @@ public final class EdgesOfTriesTests extends Edge {
             x.place(1, 0, 999, true);
             x.place(2, 1, 999, true);
             order(x, 1, 0, 5);
+            x = sorted("go weak*place when age=0;go 1000;", "shape gone;", 0, 1, 2);
+            x.place(0, 0, 1, false);
+            x.place(2, 2, 3, false);
+            order(x, 2, 1, 0);
             NoTwoTogether y = sorted("go weak+beside*300;", "side 2;", 1, 0, 5);
             y.place(1, 0, 0, true);
             order(y, 1, 0, 5);
@@ -488,6 +504,14 @@ public final class EdgesOfTriesTests extends Edge {
             good(x, 1, "change 1 when place=0 and day=1;");
             good(x, 2, "change 1 when place=1 and day=1;");
             betterIs(x, 1, 1);
+        });
+        edge("4: BETTER: COST that there is by now is no matter", () -> {
+            NoTwoTogether x = twoRules();
+            x.days(3);
+            due("COST", x.look(3), 36);
+            betterIs(x, 1, 1);
+            good(x, 2, "");
+            betterIs(x, 1, 2);
         });
         edge("4: BETTER: with EVERY as it was told", () -> {
             NoTwoTogether x = bridge(2);
