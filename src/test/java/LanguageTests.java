@@ -1,12 +1,19 @@
+import java.io.PrintWriter;
+import java.io.StringWriter;
 import java.lang.management.ManagementFactory;
+import java.lang.reflect.Field;
+import java.lang.reflect.Modifier;
 import java.nio.file.Files;
 import java.nio.file.Path;
 import java.util.ArrayList;
+import java.util.HashMap;
 import java.util.HashSet;
 import java.util.List;
+import java.util.Map;
 import java.util.Set;
 import java.util.regex.Matcher;
 import java.util.regex.Pattern;
+import java.util.spi.ToolProvider;
 
 /** What of LANGUAGE.md can be read off the source, and that no call makes an object. */
 public final class LanguageTests {
@@ -24,6 +31,8 @@ public final class LanguageTests {
         library(bare);
         statics(bare);
         methods(bare);
+        fields();
+        depths();
         rooms();
         System.out.println(wrong == 0 ? "the rules that are looked at are kept" : wrong + " rules are broken");
         if (wrong != 0) {
@@ -100,6 +109,90 @@ public final class LanguageTests {
         }
         expect(names.containsAll(FACE), "a method of the face is not there");
         expect(names.size() > 60, "the methods were not found");
+    }
+
+    private static List<Class<?>> classes() {
+        List<Class<?>> all = new ArrayList<>(List.of(NoTwoTogether.class.getDeclaredClasses()));
+        all.add(NoTwoTogether.class);
+        return all;
+    }
+
+    private static void fields() {
+        for (Class<?> one : classes()) {
+            int many = 0;
+            for (Field field : one.getDeclaredFields()) {
+                boolean isStatic = Modifier.isStatic(field.getModifiers());
+                many += isStatic ? 0 : 1;
+                expect(!isStatic || Modifier.isFinal(field.getModifiers()), "rule 5: " + field);
+                expect(one != NoTwoTogether.class || Modifier.isPrivate(field.getModifiers()) || field.getName().equals("NONE"), "rule 1: " + field);
+            }
+            expect(many <= 20, "rule 11: " + one.getName() + " has " + many + " fields");
+        }
+    }
+
+    /** Methods that call one another count as one level; these are the Parser's alone, which count what is open. */
+    private static void depths() {
+        Map<String, Set<String>> calls = new HashMap<>();
+        for (Class<?> one : classes()) {
+            calls(one.getName(), calls);
+        }
+        Map<String, Set<String>> reached = new HashMap<>();
+        calls.keySet().forEach(method -> reach(method, calls, reached.computeIfAbsent(method, m -> new HashSet<>())));
+        Set<String> again = new HashSet<>(calls.keySet());
+        again.removeIf(method -> !reached.get(method).contains(method));
+        expect(again.equals(Set.of("NoTwoTogether$Parser.readOr", "NoTwoTogether$Parser.readAnd", "NoTwoTogether$Parser.readClause")),
+            "rule 8: these call one another: " + again);
+        Map<String, Integer> depths = new HashMap<>();
+        for (String method : calls.keySet()) {
+            expect(depth(method, calls, reached, depths) <= 8, "rule 11: calls go " + depths.get(method) + " deep from " + method);
+        }
+        expect(calls.size() > 100 && depths.containsValue(8), "the calls were not found");
+    }
+
+    private static void calls(String name, Map<String, Set<String>> calls) {
+        StringWriter told = new StringWriter();
+        String home = System.getProperty("java.class.path");
+        ToolProvider.findFirst("javap").orElseThrow().run(new PrintWriter(told), new PrintWriter(told), "-p", "-c", "-cp", home, name);
+        Pattern head = Pattern.compile("^  (?:[\\w\\[\\]$.]+ )*([\\w$.]+)\\(.*\\);$");
+        Pattern call = Pattern.compile("// Method (?:(NoTwoTogether[\\w$]*)\\.)?(?:\"<init>\"|(\\w+)):");
+        Set<String> made = new HashSet<>();
+        for (String line : told.toString().split("\n")) {
+            Matcher begins = head.matcher(line);
+            Matcher calling = call.matcher(line);
+            if (begins.find()) {
+                made = calls.computeIfAbsent(name + "." + (begins.group(1).equals(name) ? "new" : begins.group(1)), m -> new HashSet<>());
+            } else if (line.contains("invoke") && calling.find()) {
+                made.add((calling.group(1) == null ? name : calling.group(1)) + "." + (calling.group(2) == null ? "new" : calling.group(2)));
+            }
+        }
+    }
+
+    private static void reach(String from, Map<String, Set<String>> calls, Set<String> reached) {
+        for (String to : calls.getOrDefault(from, Set.of())) {
+            if (reached.add(to)) {
+                reach(to, calls, reached);
+            }
+        }
+    }
+
+    private static int depth(String method, Map<String, Set<String>> calls, Map<String, Set<String>> reached, Map<String, Integer> depths) {
+        Integer known = depths.get(method);
+        if (known != null) {
+            return known;
+        }
+        Set<String> level = new HashSet<>(reached.get(method));
+        level.removeIf(other -> !reached.getOrDefault(other, Set.of()).contains(method));
+        level.add(method);
+        int deepest = 0;
+        for (String one : level) {
+            for (String to : calls.get(one)) {
+                if (!level.contains(to) && calls.containsKey(to)) {
+                    deepest = Math.max(deepest, depth(to, calls, reached, depths));
+                }
+            }
+        }
+        depths.put(method, deepest + 1);
+        return deepest + 1;
     }
 
     /** A run's room holds 600000 objects and 7.3 million fields and elements: the constructor alone may take of it. */

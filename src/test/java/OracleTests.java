@@ -6,33 +6,39 @@ import java.util.List;
 import java.util.Map;
 import java.util.Random;
 import java.util.TreeMap;
-import java.util.function.IntBinaryOperator;
+import java.util.function.Function;
 import java.util.regex.Matcher;
 import java.util.regex.Pattern;
 
 /** Random runs, each call held against a second, slow telling of the document. */
 public final class OracleTests {
-    private static final int RUNS = 400;
     private static final int CALLS = 512;
+    private static final Map<String, Integer> FAULTS = new TreeMap<>();
+    private static int wrong = 0;
+    private static long calls = 0;
 
     public static void main(String[] args) {
-        int wrong = 0;
-        long calls = 0;
-        Map<String, Integer> faults = new TreeMap<>();
-        for (int seed = 1; seed <= RUNS && wrong < 5; seed++) {
-            Run run = new Run(seed);
-            String told = run.go();
-            calls += run.calls;
-            run.faults.forEach((k, v) -> faults.merge(k, v, Integer::sum));
-            if (told != null) {
-                wrong++;
-                System.out.println("seed " + seed + ": " + told);
-            }
-        }
-        System.out.println(calls + " calls; faults met " + faults);
+        runs("of all calls", 400, Run::go);
+        runs("of texts", 60, Run::goThroughTexts);
+        runs("of late days", 20, Run::goLate);
+        runs("of dear calls", 12, Run::goDear);
+        System.out.println(calls + " calls; faults met " + FAULTS);
         System.out.println(wrong == 0 ? "all answers are as the oracle's" : wrong + " runs differ");
         if (wrong != 0) {
             System.exit(1);
+        }
+    }
+
+    private static void runs(String what, int many, Function<Run, String> way) {
+        for (int seed = 1; seed <= many && wrong < 5; seed++) {
+            Run run = new Run(seed);
+            String told = way.apply(run);
+            calls += run.calls;
+            run.faults.forEach((k, v) -> FAULTS.merge(k, v, Integer::sum));
+            if (told != null) {
+                wrong++;
+                System.out.println("a run " + what + ", seed " + seed + ": " + told);
+            }
         }
     }
 
@@ -1032,6 +1038,61 @@ public final class OracleTests {
             return wrong;
         }
 
+        /** Texts alone, most of them with a number, a line, a bracket or a shape at an edge. */
+        String goThroughTexts() {
+            while (calls < CALLS - 40 && wrong == null) {
+                int k = chance.nextInt(4);
+                String text = k == 3 ? edgyBreaks() : edgyLines(k == 0);
+                tell(k, chance.nextInt(4) == 0 ? spoil(text) : text);
+                call("of", pick(0, 7), k == 0 ? 5 : k == 1 ? 7 : 8);
+                call("fails", pick(0, 255), 0);
+            }
+            return wrong;
+        }
+
+        /** Days up to 9999, and thought beyond them. */
+        String goLate() {
+            newRow();
+            for (int k = 0; k < 4; k++) {
+                tell(k);
+            }
+            call("set", 3, chance.nextBoolean() ? 1 : pick(1, 99));
+            for (int i = 0; i < 100; i++) {
+                call("days", 99);
+            }
+            while (calls < CALLS && wrong == null) {
+                call("days", chance.nextInt(5) == 0 ? pick(1, 99) : 1);
+                lookAll();
+                call("of", pick(0, oracle.w.n() - 1), pick(0, 9));
+                call("thought", pick(1, 2), pick(1, 99), pick(1, 99), pick(0, 2));
+                step();
+            }
+            return wrong;
+        }
+
+        /** What tries or foresees most, on the longest rows for which it can be. */
+        String goDear() {
+            int[] lengths = {7, 12, 10};
+            int n = lengths[chance.nextInt(3)];
+            call("row", n);
+            for (int p = 0; p < n; p++) {
+                call("sort", p % 6, pick(0, 120), pick(0, 9));
+                call("place", p, pick(0, 5), pick(0, 20), chance.nextInt(9) == 0 ? 1 : 0);
+            }
+            tell(0, "go " + chance.nextInt(9) + " + weak/" + (1 + chance.nextInt(9)) + " + beside*" + chance.nextInt(60) + "+age/3;");
+            String[] breaks = {"side 3;", "any 3 in 5;side 2;", "shape gone there gone;any 5 in 8;", "side 8;shape there gone gone there;"};
+            tell(3, breaks[chance.nextInt(4)]);
+            call("chance", 0);
+            call("which", n == 10 ? 2 : 4);
+            call("where", pick(0, n - 1));
+            if (n == 10) {
+                call("left", 2 + chance.nextInt(3));
+                call("ahead", 1, 2 + chance.nextInt(3));
+            }
+            call("ahead", n == 10 && chance.nextInt(3) > 0 ? 1 : 0, 3);
+            return wrong;
+        }
+
         int pick(int least, int most) {
             if (chance.nextInt(60) == 0) {
                 int[] odd = {least - 1, most + 1, Integer.MIN_VALUE, Integer.MAX_VALUE, -1};
@@ -1161,9 +1222,10 @@ public final class OracleTests {
 
         void tell(int k) {
             String text = k == 3 ? breaks() : lines(k == 0);
-            if (chance.nextInt(4) == 0) {
-                text = spoil(text);
-            }
+            tell(k, chance.nextInt(4) == 0 ? spoil(text) : text);
+        }
+
+        void tell(int k, String text) {
             if (text.length() > 500 || calls > CALLS - 30) {
                 return;
             }
@@ -1290,6 +1352,54 @@ public final class OracleTests {
                     default: shape(b); break;
                 }
                 b.append(";");
+            }
+            return b.toString();
+        }
+
+        String edgyLines(boolean law) {
+            StringBuilder b = new StringBuilder();
+            int many = chance.nextInt(3) == 0 ? 15 + chance.nextInt(3) : 1 + chance.nextInt(3);
+            String[] sums = {"1", "age/0", "age / 00", "age/0000", "age/1", "age/00000", "9999", "10000", "age*0/3", "age/age", "-1", "age-1"};
+            for (int i = 0; i < many; i++) {
+                b.append(law ? "go " : "change ");
+                if (many > 3) {
+                    b.append(chance.nextInt(60) == 0 ? "age/0" : "1").append(';');
+                } else {
+                    b.append(sums[chance.nextInt(sums.length)]).append(chance.nextBoolean() ? "" : " when " + nested()).append(';');
+                }
+            }
+            return b.toString();
+        }
+
+        /** About eight ( and not that are open at once. */
+        String nested() {
+            StringBuilder b = new StringBuilder();
+            int open = 0;
+            for (int i = 5 + chance.nextInt(5); i > 0; i--) {
+                boolean isNot = chance.nextBoolean();
+                b.append(isNot ? "not " : "(");
+                open += isNot ? 0 : 1;
+            }
+            b.append("age<3");
+            for (int i = 0; i < open; i++) {
+                b.append(chance.nextInt(4) == 0 ? " or not (age=2))" : ")");
+            }
+            return b.toString();
+        }
+
+        String edgyBreaks() {
+            StringBuilder b = new StringBuilder();
+            String[] numbers = {"0", "1", "2", "3", "7", "8", "9", "0008", "00008", "9999"};
+            int many = chance.nextInt(3) == 0 ? 7 + chance.nextInt(3) : 1 + chance.nextInt(3);
+            for (int i = 0; i < many; i++) {
+                int safe = many > 3 && chance.nextInt(12) > 0 ? 3 : chance.nextInt(3);
+                switch (safe) {
+                    case 0: b.append("side ").append(numbers[chance.nextInt(numbers.length)]); break;
+                    case 1: b.append("any ").append(numbers[chance.nextInt(7)]).append(" in ").append(numbers[chance.nextInt(7)]); break;
+                    case 2: b.append("shape").append(" all gone there".substring(0, 4 + 5 * chance.nextInt(2)).repeat(chance.nextInt(6))); break;
+                    default: b.append("side 4");
+                }
+                b.append(';');
             }
             return b.toString();
         }
